@@ -364,7 +364,7 @@ public final class DotObjects {
     }
 
     private static boolean isInSet(int set, int k) {
-        return (set >>> k & 1) == 1;
+        return ((set >>> k) & 1) == 1;
     }
 
     private boolean isThing(int t) {
@@ -420,7 +420,9 @@ public final class DotObjects {
 
         Scene() {
             cells[LIMIT] = FIRST_LIMIT;
-            Arrays.fill(cells, PICTURES_AT, PICTURES_AT + SIZE, MOST_ROW);
+            for (int r = 0; r < SIZE; r++) {
+                cells[PICTURES_AT + r] = MOST_ROW;
+            }
         }
 
         void saveTo(int[] copy) {
@@ -530,13 +532,13 @@ public final class DotObjects {
                 bits = mirrored(bits);
             }
             // What lies left of the SCREEN is above bit 31 and goes with the cast, what lies right of it with the shift.
-            return (int) ((long) bits << COLUMNS >>> field(t, X) + SIZE);
+            return (int) (((long) bits << COLUMNS) >>> (field(t, X) + SIZE));
         }
 
         private static int mirrored(int bits) {
             int mirrored = 0;
             for (int k = 0; k < SIZE; k++) {
-                mirrored = mirrored << 1 | bits >>> k & 1;
+                mirrored = (mirrored << 1) | ((bits >>> k) & 1);
             }
             return mirrored;
         }
@@ -830,7 +832,7 @@ public final class DotObjects {
             for (int line = 0; line < LINES; line++) {
                 int dropped = ahead.setOn(line) & ~order.chosen(ahead, line);
                 for (int t = 0; t < MOST_THINGS; t++) {
-                    drops[t] += dropped >>> t & 1;
+                    drops[t] += (dropped >>> t) & 1;
                 }
             }
         }
@@ -925,6 +927,7 @@ public final class DotObjects {
     private static final class Draws {
         private static final long TIMES = 1103515245L;
         private static final long AND = 12345L;
+        private static final long SEEDS = 2147483648L;
         private static final int PASSED_OVER = 65536;
 
         private int value;
@@ -949,7 +952,7 @@ public final class DotObjects {
         }
 
         private int below(int n) {
-            value = (int) (value * TIMES + AND & Integer.MAX_VALUE);
+            value = (int) ((value * TIMES + AND) % SEEDS);
             return n > 0 ? value / PASSED_OVER % n : 0;
         }
     }
