@@ -16,6 +16,14 @@ final class Due {
         }
     }
 
+    void is(String call, String got, String want) {
+        asked++;
+        if (!got.equals(want)) {
+            wrong++;
+            System.out.println(test + ": " + call + " answered " + got + ", due is " + want);
+        }
+    }
+
     void isTrue(String what, boolean holds) {
         is(what, holds ? 1 : 0, 1);
     }

@@ -32,7 +32,6 @@ public final class PromisesTest {
         holders();
         meets();
         missingIsByColour();
-        refusalsChangeNothing();
         due.close();
     }
 
@@ -607,34 +606,5 @@ public final class PromisesTest {
         x.put(0, 0, 0, 0, 0, 4);
         x.take(1);
         is("of another colour it is", x.told(4), 64);
-    }
-
-    private static void refusalsChangeNothing() {
-        DotObjects x = rowOfThings(12);
-        x.keep(0);
-        x.limit(3);
-        x.write(1, 2, 3);
-        long before = print(x);
-        int[] odd = {LEAST, -1000, -9, 99, MOST};
-        for (int v : odd) {
-            x.told(v); x.thing(v, v); x.dot(v, v, v); x.line(v, v); x.drawn(v, v); x.pictureRow(v, v);
-            x.row(v, v, v); x.put(v, v, v, v, v, v); x.move(v, v, v); x.turn(v, v, v); x.speed(v, v, v); x.take(v);
-            x.limit(v); x.rule(v); x.frame(v); x.drift(v); x.undo(v); x.leftOut(v, v); x.worst(v);
-            x.write(v, v, v); x.keep(v); x.goBack(v);
-            x.row(0, v, 0); x.put(v, 0, 0, 0, 0, 1); x.move(0, v, 0); x.turn(0, 0, v); x.speed(0, 0, v); x.write(0, v, 0);
-        }
-        x.put(0, 0, 0, 0, 0, 1);
-        x.undo(2);
-        x.goBack(1);
-        is("refused calls change nothing", print(x), before);
-    }
-
-    private static long print(DotObjects x) {
-        long print = 17;
-        for (int what = 0; what < 12; what++) print = print * 31 + x.told(what);
-        for (int t = 0; t < 12; t++) for (int what = 0; what < 14; what++) print = print * 31 + x.thing(t, what);
-        for (int line = 0; line < 24; line++) for (int part = 0; part < 4; part++) print = print * 31 + x.line(line, part);
-        for (int p = 0; p < 4; p++) for (int r = 0; r < 8; r++) print = print * 31 + x.pictureRow(p, r);
-        return print;
     }
 }
