@@ -11,16 +11,20 @@ public final class AskedEdgesTest {
     public static void main(String[] args) {
         wholeIsWithoutLimit();
         missingCountsDotsOfTheScreen();
+        missingByEachTwoColours();
         coveredAndSeen();
         coveredOnlyWhereDrawn();
         meetOnOneDot();
         meetOnTheScreenAlone();
+        dotsBesideTheScreenAreNone();
         meetWhereBothAreDrawn();
         leftOutFromThisFrameOn();
+        leftOutOnLinesOfTheScreen();
         leftOutBounds();
         worstOfLikeOnes();
         worstIsNone();
         eachRuleCanBeBest();
+        bestByOneDot();
         bestOfLikeOnes();
         enoughFromOneToTwelve();
         holdersWhereOneHasEnded();
@@ -89,6 +93,19 @@ public final class AskedEdgesTest {
         is("three of four on every line", x.limit(1), 24 * 24);
         is("one of four", x.limit(3), 24 * 8);
         is("none of four", x.limit(4), 0);
+    }
+
+    /** Otherwise than WHOLE: another COLOUR of 0 .. 7, whichever two they are. */
+    private static void missingByEachTwoColours() {
+        for (int front = 1; front <= 7; front++) {
+            for (int behind = 0; behind <= 7; behind++) {
+                DotObjects x = new DotObjects();
+                x.put(31, 23, behind == 0 ? 1 : 0, 0, 3, Math.max(behind, 1));
+                x.put(31, 23, 0, 0, 0, front);
+                is("instead of " + front + " " + behind, x.limit(1), front == behind ? 0 : 1);
+                is("both", x.limit(2), 0);
+            }
+        }
     }
 
     /** COVERED: how many dots a THING HAS on THE SCREEN where it is DRAWN and another is SEEN. SEEN: how many DOTS it is. */
@@ -174,6 +191,29 @@ public final class AskedEdgesTest {
         }
     }
 
+    /** Two THINGS whose one dot lies just on THE SCREEN, or just beside it: SEEN, COVERED, MEET, WOULD MEET, MISSING. */
+    private static void dotsBesideTheScreenAreNone() {
+        // X, Y, the row and the bit of the one dot, and how many are on the screen.
+        int[][] cases = {{0, 23, 0, 7, 1}, {0, 23, 1, 7, 0}, {0, 16, 7, 7, 1}, {0, 17, 7, 7, 0}, {0, -7, 7, 7, 1}, {0, -7, 6, 7, 0}, {0, -8, 7, 7, 0},
+            {31, 0, 0, 7, 1}, {31, 0, 0, 6, 0}, {24, 0, 0, 0, 1}, {25, 0, 0, 0, 0}, {-7, 0, 0, 0, 1}, {-7, 0, 0, 1, 0}, {-8, 0, 0, 0, 0}};
+        for (int[] c : cases) {
+            DotObjects x = new DotObjects();
+            x.row(1, c[2], 1 << c[3]);
+            x.put(c[0], c[1], 1, 0, 0, 1);
+            x.put(c[0], c[1], 1, 0, 1, 2);
+            String told = java.util.Arrays.toString(c) + " ";
+            is(told + "dots", x.told(8), c[4]);
+            is(told + "seen", x.thing(0, 8), c[4]);
+            is(told + "covered", x.thing(1, 9), c[4]);
+            is(told + "meets", x.thing(0, 12), 2 * c[4]);
+            is(told + "would meet", x.thing(1, 13), c[4]);
+            x.limit(1);
+            is(told + "meets no more", x.thing(0, 12), 0);
+            is(told + "would meet still", x.thing(0, 13), 2 * c[4]);
+            is(told + "missing", x.rule(1), c[4]);
+        }
+    }
+
     /** On a LINE where both are DRAWN; WOULD MEET: whether DRAWN or not. */
     private static void meetWhereBothAreDrawn() {
         DotObjects x = Look.pile(1, 0, 0);
@@ -208,6 +248,18 @@ public final class AskedEdgesTest {
         is("from this one on", x.leftOut(1, 1), 8);
         is("and the next", x.leftOut(1, 2), 15);
         is("past it", x.leftOut(1, 8), 36);
+    }
+
+    /** On how many LINES: those there are. */
+    private static void leftOutOnLinesOfTheScreen() {
+        for (int y = -8; y <= 23; y++) {
+            DotObjects x = Look.pile(5, 0, y);
+            int lines = Math.min(8, Math.min(y + 8, 24 - y));
+            is("left out at " + y, x.leftOut(4, 1), lines);
+            is("left out at " + y + " in forty", x.leftOut(4, 40), 40 * lines);
+            is("dropped lines at " + y, Integer.bitCount(x.thing(4, 10)), lines);
+            is("worst at " + y, x.worst(1), y == -8 ? NONE : 4);
+        }
     }
 
     private static void leftOutBounds() {
@@ -278,6 +330,35 @@ public final class AskedEdgesTest {
                 is("asking leaves the rule", x.told(2), rule);
             }
         }
+    }
+
+    /** Least is MISSING: by a single DOT. */
+    private static void bestByOneDot() {
+        // Of two things side by side: which has a dot more, the frame, the level of thing 1 (of thing 0 it is 2), the best rule.
+        int[][] cases = {{0, 0, 3, 0}, {1, 0, 3, 1}, {1, 1, 3, 1}, {1, 0, 0, 1}};
+        for (int[] c : cases) {
+            DotObjects x = new DotObjects();
+            x.row(1, 0, 0b10000000);
+            x.row(2, 0, 0b11000000);
+            x.put(0, 0, c[0] == 0 ? 2 : 1, 0, 2, 1);
+            x.put(8, 0, c[0] == 1 ? 2 : 1, 0, c[2], 1);
+            if (c[1] == 1) x.frame(1);
+            x.limit(1);
+            is("best by one dot", x.told(5), c[3]);
+        }
+        DotObjects x = new DotObjects();
+        x.row(1, 0, 0b10000000);
+        x.row(2, 0, 0b11000000);
+        int[] pictures = {1, 2, 1};
+        for (int t = 0; t < 3; t++) x.put(8 * t, 0, pictures[t], 0, t == 1 ? 1 : 0, 1);
+        x.limit(1);
+        is("0, 1, 2 and 3 alike", x.told(5), 0);
+        x.frame(1);
+        is("2 by one dot", x.told(5), 2);
+        x.frame(2);
+        x.turn(0, 0, 2);
+        x.turn(2, 0, 3);
+        is("3 by one dot", x.told(5), 3);
     }
 
     /** Of like ones the least. */

@@ -33,6 +33,7 @@ public final class ScreenEdgesTest {
         xGoesRound();
         yGoesRound();
         longWays();
+        framesChangeNothingElse();
         framesToTheLastCall();
         due.close();
     }
@@ -490,6 +491,29 @@ public final class ScreenEdgesTest {
         is("eight by 8 are two rounds of Y, not of X", Look.place(x, 0), 2331);
         x.frame(12);
         is("twenty by 8 are rounds of both", Look.place(x, 0), 3931);
+    }
+
+    /** FRAME is 1 more, each THING goes: nothing else is otherwise behind it. */
+    private static void framesChangeNothingElse() {
+        DotObjects x = new DotObjects();
+        for (int p = 0; p < 4; p++) for (int r = 0; r < 8; r++) x.row(p, r, 250 - p * 8 - r);
+        x.limit(8);
+        x.rule(3);
+        x.write(0, 0, 7);
+        x.seed(6);
+        for (int t = 0; t < 11; t++) x.put(t, t, t % 4, t / 4, 3 - t % 4, t % 7 + 1);
+        x.speed(10, 8, -8);
+        x.frame(1);
+        for (int p = 0; p < 4; p++) for (int r = 0; r < 8; r++) is("row", x.pictureRow(p, r), 250 - p * 8 - r);
+        for (int t = 0; t < 10; t++) {
+            is("thing " + t + " stands", Look.thing(x, t), (t + 8) + " " + (t + 8) + " " + t % 4 + " " + t / 4 + " " + (3 - t % 4) + " " + (t % 7 + 1) + " 8 8");
+        }
+        is("thing 10 goes", Look.thing(x, 10), "26 10 2 2 1 4 16 0");
+        is("there is none behind it", x.thing(11, 0), UNKNOWN);
+        is("limit, rule, frame", x.told(1) * 100 + x.told(2) * 10 + x.told(3), 831);
+        is("the book", x.told(9), 1);
+        is("the seed", x.seed(0), 6);
+        is("the next to be put stands still", Look.speed(x, x.put(0, 0, 0, 0, 0, 1)), 808);
     }
 
     /** FRAME is 1 more, up to the last of 512 calls. */
